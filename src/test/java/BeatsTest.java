@@ -97,7 +97,8 @@ public final class BeatsTest {
         Check.due("met", p.sum(0), 2);
         Check.due("woven", p.sum(1), 1);
         Check.due("unwound", p.sum(2), 1);
-        Check.due("left", p.at(2, 0, 2), 20);
+        Check.due("left again", p.at(2, 0, 2), 20);
+        Check.due("left again", p.at(2, 1, 2), 20);
         MayPole q = Check.told("ar1;bl2", "oto");
         Check.due("another one over", q.high(2, 0), 2);
         Check.due("over now", q.weave(1, 0), 1);
@@ -224,6 +225,7 @@ public final class BeatsTest {
 
     private static void bare() {
         Check.due("none ever", Check.told("ar1;bl2", "o").bare(), Check.NONE);
+        Check.due("behind 0 alone", Check.told("ar1;bl2", "so").bare(), 0);
         Check.due("ahead of the first", Check.told("ar1;bl2", "sso").bare(), 1);
         Check.due("behind the last", Check.told("ar1;bl2", "otu").bare(), 23);
         Check.due("between", Check.told("ar1;bl2", "otuto").bare(), 3);

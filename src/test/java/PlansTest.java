@@ -86,6 +86,13 @@ public final class PlansTest {
         Check.due("three are too many", p.spare(-1), Check.NONE);
         Check.due("no first", p.spare(0), Check.NONE);
         Check.due("no second", p.spare(1), Check.NONE);
+        MayPole apart = Check.told("ar1;bl2", "otu");
+        apart.event(2, 1, 1);
+        apart.event(0, 2, 7);
+        apart.event(2, 2, 0);
+        Check.due("two, not side by side", apart.spare(-1), 2);
+        Check.due("the first", apart.spare(0), 0);
+        Check.due("the second", apart.spare(1), 2);
         MayPole q = Check.told("ar1;bl2", "o");
         Check.due("no events to spare", q.spare(-1), Check.NONE);
     }

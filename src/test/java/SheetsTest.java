@@ -206,6 +206,10 @@ public final class SheetsTest {
         p.sheet(0, 0, 4);
         p.read(1);
         Check.due("neither sheets nor findings are in it", p.digest(), was);
+        MayPole spared = Check.told("ar1;bl2", "otu");
+        spared.event(0, 0, 5);
+        spared.event(1, 2, 0);
+        Check.due("digest with one to spare", spared.digest(), digestByHand(spared));
         Check.due("digest of a new one", new MayPole().digest(), digestByHand(new MayPole()));
     }
 }

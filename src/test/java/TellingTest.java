@@ -203,6 +203,10 @@ public final class TellingTest {
         Check.due("as long as there is room", p.read(0), 5);
         Check.due("full", p.read(0), 0);
         Check.due("count(3)", p.count(3), 8);
+        p.back();
+        p.sheet(0, 2, 3);
+        Check.due("just one is whole", p.read(0), 1);
+        p.back();
         p.sheet(0, 2, 2);
         Check.due("none is whole", p.read(0), 0);
     }
