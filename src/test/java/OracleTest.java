@@ -2,13 +2,15 @@ import java.util.Random;
 
 /** Runs of calls by lots, each answer held against the Oracle's. */
 public final class OracleTest {
-    private static final int RUNS = 400, CALLS = 220;
+    /** An object is used for 512 calls; a turn makes 36 at most. */
+    private static final int RUNS = 400, MOST_CALLS = 512 - 36;
     private static final int[] ODD = {-1, 0, 1, 2, 3, 7, 8, 11, 12, 23, 24, 60, 61, 120, 121, Integer.MAX_VALUE, Integer.MIN_VALUE};
 
     private final Random lots;
     private final MayPole pole = new MayPole();
     private final Oracle oracle = new Oracle();
     private final int run;
+    private int calls = 0;
 
     private OracleTest(int run) {
         this.run = run;
@@ -25,7 +27,7 @@ public final class OracleTest {
         tell(1, steps());
         if (lots.nextInt(3) > 0) same("ribbons", pole.ribbons(2), oracle.ribbons(2));
         for (int i = lots.nextInt(6); i > 0; i--) tellEvent();
-        for (int i = 0; i < CALLS; i++) {
+        while (calls < MOST_CALLS) {
             switch (lots.nextInt(9)) {
                 case 0: change(); break;
                 case 1: plan(); break;
@@ -37,6 +39,7 @@ public final class OracleTest {
     }
 
     private void same(String call, long got, long want) {
+        calls++;
         Check.due("run " + run + ": " + call, got, want);
     }
 
